@@ -563,7 +563,6 @@ public final class SoapTreaty {
         static final int WASH = 10;
         static final int WEEK = 15;
         static final int PLAIN = 16;
-        static final int CARVER = 19;
         static final int NOT = 20;
         static final int AND = 21;
         static final int OR = 22;
@@ -780,7 +779,7 @@ public final class SoapTreaty {
                 int step = steps[i];
                 if (step >= USED) {
                     if (height < HIGHEST) {
-                        stack[height] = step == LEFT ? left : step == TOUGH ? tough : step == WET ? wet : step == USED ? used : step;
+                        stack[height] = operand(step, left, tough, wet, used);
                         height++;
                     }
                 } else if (step == NOT) {
@@ -792,7 +791,17 @@ public final class SoapTreaty {
                     stack[height - 1] = joined(step, stack[height - 1], stack[height]);
                 }
             }
-            return stack[0];
+            return height > 0 ? stack[0] : 0;
+        }
+
+        private static int operand(int step, int left, int tough, int wet, int used) {
+            switch (step) {
+                case LEFT: return left;
+                case TOUGH: return tough;
+                case WET: return wet;
+                case USED: return used;
+                default: return step;
+            }
         }
 
         private static int joined(int step, int a, int b) {

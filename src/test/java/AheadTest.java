@@ -99,6 +99,8 @@ final class AheadTest {
         CHECK.due("the longest", x.last(), 1);
         x.hair(4);
         CHECK.due("a hair keeps it", x.last(), 4);
+        SoapTreaty far = Check.told(FIVE + "cake a from n to p thick 1 hard 5;cake b from p to d thick 1 hard 5;wears 97<used;");
+        CHECK.due("for ever is longer than 99", far.last(), 1);
         for (int cake = 0; cake < 5; cake++) {
             x.pick(cake);
             x.wash(cake);
@@ -123,6 +125,10 @@ final class AheadTest {
         CHECK.due("of equal ones the first", equal.best(0), 0);
         SoapTreaty none = Check.told("power d dry water 1;power c carver water 9;cake a from d to c thick 1 hard 0;");
         CHECK.due("not at all", none.best(0), -1);
+        SoapTreaty far = Check.told("power d dry water 1;power p plain water 9;cake a from p to d thick 1 hard 0;wears 97<used;");
+        CHECK.due("by 99", far.best(0), 1);
+        SoapTreaty further = Check.told("power d dry water 1;power p plain water 9;cake a from p to d thick 1 hard 0;wears 98<used;");
+        CHECK.due("not by 99", further.best(0), -1);
     }
 
     private static void pressing() {

@@ -68,6 +68,9 @@ final class ReadingTest {
         congressFault("power A plain water 5;", 1, 6);
         congressFault("power a.plain water 5;", 1, 7);
         congressFault("powera plain water 5;", 1, 0);
+        congressFault("power a dry water 1;power aa dry water 1;power b dry water 1;power bb dry water 1;power z dry water 1;"
+            + "cake za from a to aa thick 1 hard 1;cake az from b to bb thick 1 hard 1;cake zz from z to a thick 1 hard 1;"
+            + "cake ba from a to aa thick 1 hard 1;cake ab from b to bb thick 1 hard 1;pebble za 1;pebble ab 1;pebble ba 1;", 0, 0);
     }
 
     private static void congressFaults() {
@@ -175,6 +178,8 @@ final class ReadingTest {
         law("8192*8192*64+8", 8);
         law("8192*8192*32-1+8192*8192*32+5", 4);
         law("((((6))))", 6);
+        law("0 or 0<0+1*(0 or 0<0+1*(0 or 0<0+1*(0 or 0<0+1*(0 or 0<0+1*5))))", 1);
+        law("1 and 1=9-8*(1 and 1=9-8*(1 and 1=9-8*(1 and 1=9-8*(1 and 1=9-8*1))))", 1);
         law("not not not not 6", 1);
     }
 
@@ -261,6 +266,9 @@ final class ReadingTest {
         yearsFault(x, "wash c", 1, 6);
         yearsFault(x, "power d dry water 1;", 1, 0);
         yearsFault(x, ";", 1, 0);
+        yearsFault(x, "wears c;", 1, 0);
+        yearsFault(x, "plain c;", 1, 0);
+        yearsFault(x, "c;", 1, 0);
         CHECK.due("the years stay", x.count(9), 6);
         StringBuilder forty = new StringBuilder();
         for (int i = 0; i < 40; i++) {
