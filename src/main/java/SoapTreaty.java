@@ -400,8 +400,7 @@ public final class SoapTreaty {
             return false;
         }
         past.keep(page.state);
-        page.state.carryOut(act, cake, power);
-        return true;
+        return page.state.attempt(act, cake, power);
     }
 
     private int weeksToPebble(int cake) {
@@ -1307,21 +1306,12 @@ public final class SoapTreaty {
         }
 
         boolean attempt(int act, int cake, int power) {
-            if (!can(act, cake, power)) {
-                return false;
-            }
-            carryOut(act, cake, power);
-            return true;
-        }
-
-        /** Only for what can be. */
-        void carryOut(int act, int cake, int power) {
             if (act == WEEK) {
                 passOneWeek();
-                return;
+                return true;
             }
-            if (!congress.hasCake(cake)) {
-                return;
+            if (!congress.hasCake(cake) || !can(act, cake, power)) {
+                return false;
             }
             switch (act) {
                 case WASH: washOnce(cake); break;
@@ -1330,6 +1320,7 @@ public final class SoapTreaty {
                 case GIFT: owner[cake] = power; break;
                 default: lump += thick[cake]; thick[cake] = 0; break;
             }
+            return true;
         }
 
         private void washOnce(int cake) {

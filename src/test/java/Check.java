@@ -61,4 +61,46 @@ final class Check {
     static int fault(int kind, int place) {
         return kind + 16 * place;
     }
+
+    /** All that can be asked about how it is, but the tape: some hundred calls at most, so twice or thrice an object. */
+    static String all(SoapTreaty x) {
+        StringBuilder all = new StringBuilder();
+        for (int what = 0; what <= 11; what++) {
+            all.append(" count").append(what).append('=').append(x.count(what));
+        }
+        for (int power = 0; power < x.count(0); power++) {
+            for (int what = 0; what <= 5; what++) {
+                all.append(" power").append(power).append('.').append(what).append('=').append(x.power(power, what));
+            }
+        }
+        for (int cake = 0; cake < x.count(1); cake++) {
+            for (int what = 0; what <= 6; what++) {
+                all.append(" cake").append(cake).append('.').append(what).append('=').append(x.cake(cake, what));
+            }
+        }
+        for (int what = 0; what <= 2; what++) {
+            all.append(" judged").append(what).append('=').append(x.judged(what));
+            all.append(" sets").append(what).append('=').append(x.sets(what));
+        }
+        return all.toString();
+    }
+
+    void stays(String call, SoapTreaty x, String before) {
+        String after = all(x);
+        due(call, after.equals(before), true);
+        if (!after.equals(before)) {
+            System.out.println("  before:" + before + "\n  after: " + after);
+        }
+    }
+
+    /** The answers for whats from the first on, one for each due. */
+    interface Asked {
+        long answer(int what);
+    }
+
+    void row(String call, Asked asked, int first, long... due) {
+        for (int i = 0; i < due.length; i++) {
+            due(call + " " + (first + i), asked.answer(first + i), due[i]);
+        }
+    }
 }

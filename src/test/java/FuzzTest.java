@@ -7,6 +7,9 @@ import java.util.Random;
 final class FuzzTest {
     private static final int RUNS = 1500;
     private static final int CALLS = 150;
+    /** An object is used for 512 calls; a text takes up to 43 to feed it, one to read it, and two questions behind it. */
+    private static final int LAST_CALL = 512 - 46;
+    private static final int LONGEST_TEXT = 43 * 24;
     private static final int TEXTS = 30000;
     private static final int THROWN = -1000;
 
@@ -15,6 +18,7 @@ final class FuzzTest {
     private SoapTreaty soap = new SoapTreaty();
     private Model model = new Model();
     private int wrong = 0;
+    private int calls = 0;
 
     private FuzzTest(long seed) {
         random = new Random(seed);
@@ -166,6 +170,7 @@ final class FuzzTest {
     // ---- calls
 
     private void compare(String call, long got, long want) {
+        calls++;
         trail.add(call + " -> " + want);
         if (got != want && wrong == 0) {
             wrong++;
@@ -180,7 +185,8 @@ final class FuzzTest {
         compare(call, got ? 1 : 0, want ? 1 : 0);
     }
 
-    private void feed(String text) {
+    private void feed(String all) {
+        String text = all.substring(0, Math.min(LONGEST_TEXT, all.length()));
         for (int at = 0; at < text.length(); at += 24) {
             long a = Check.eight(text, at);
             long b = Check.eight(text, at + 8);
@@ -201,7 +207,9 @@ final class FuzzTest {
 
     private int readMany(int texts) {
         for (int i = 0; i < texts && wrong == 0; i++) {
-            trail.clear();
+            if (calls > LAST_CALL) {
+                beginAnew();
+            }
             if (i % 3 == 0) {
                 readYears(spoilt(years()));
             } else {
@@ -213,9 +221,17 @@ final class FuzzTest {
         return wrong;
     }
 
+    private void beginAnew() {
+        trail.clear();
+        calls = 0;
+        soap = new SoapTreaty();
+        model = new Model();
+        readCongress(congress());
+    }
+
     private int play() {
         readCongress(congress());
-        for (int call = 0; call < CALLS && wrong == 0; call++) {
+        for (int call = 0; call < CALLS && calls < LAST_CALL && wrong == 0; call++) {
             int cake = below(9) == 0 ? below(10) - 1 : below(Math.max(1, model.count(1)));
             int power = below(9) == 0 ? below(7) - 1 : below(Math.max(1, model.count(0)));
             int kind = below(100);
@@ -347,6 +363,7 @@ final class FuzzTest {
         int thick = model.cake(cake, 2);
         model.mark(3, true);
         soap.mark(3, true);
+        calls += 2;
         trail.add("mark(3) laid and gone back to " + laid);
         return thick;
     }
