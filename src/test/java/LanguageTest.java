@@ -5,7 +5,7 @@ import java.util.List;
 import java.util.regex.Matcher;
 import java.util.regex.Pattern;
 
-/** What can be seen of LANGUAGE.md's rules in the source's lines; -Dsource tells where it is. */
+/** What can be seen of LANGUAGE.md's rules in the source's lines; -Droot tells where it is. */
 final class LanguageTest {
     private static final Check CHECK = new Check();
     private static final String[] FORBIDDEN = {
@@ -17,7 +17,7 @@ final class LanguageTest {
     private static final int MOST_FIELDS = 20;
 
     public static void main(String[] args) throws IOException {
-        List<String> lines = Files.readAllLines(Path.of(System.getProperty("source", "src/main/java/SoapTreaty.java")));
+        List<String> lines = Files.readAllLines(Path.of(System.getProperty("root", "."), "src/main/java/SoapTreaty.java"));
         forbidden(lines);
         imports(lines);
         signs(lines);
