@@ -257,6 +257,7 @@ final class AheadEdgesTest {
 
     private static void lastFar() {
         CHECK.due("P18 for ever is longer than 99", late(1, 97, "").last(), 1);
+        CHECK.due("P18 not by 99 is for ever, as GONE tells it (NOTES.md)", late(1, 98, "").last(), 0);
         SoapTreaty x = Check.told(FIVE + cake("ca", "n", "p", 1, 8) + cake("cb", "n", "p", 1, 9) + "wears 89+tough<used;");
         CHECK.due("P16 by 99", x.gone(0), 99);
         CHECK.due("P16 not by 99", x.gone(1), -1);
